@@ -23,9 +23,9 @@ public final class PrefixMill {
     private final int[] counts = new int[SYMBOLS];
     private final Codes codes = new Codes();
     private final Tree tree = new Tree();
-    private final Writer writer = new Writer(codes, out);
-    private final Reader reader = new Reader(in);
-    private final Streams streams = new Streams(codes, in, out);
+    private final Writer writer = new Writer();
+    private final Reader reader = new Reader();
+    private final Streams streams = new Streams();
     private int place;
 
     public PrefixMill() {
@@ -110,11 +110,11 @@ public final class PrefixMill {
     }
 
     public int describe() {
-        return codes.areThere() ? writer.describeCodes() : -1;
+        return codes.areThere() ? writer.describeCodes(codes, out) : -1;
     }
 
     public int read() {
-        int fault = reader.readCodes(place);
+        int fault = reader.readCodes(in, place);
         if (fault != 0) {
             return -fault;
         }
@@ -126,17 +126,22 @@ public final class PrefixMill {
         if (!codes.areThere()) {
             return -1;
         }
-        if (streams.bitsOf(place, in.used) < 0) {
+        if (Streams.bitsOf(codes, in, place, in.used) < 0) {
             return -2;
         }
-        return four ? streams.encodeFour(place) : streams.encodeOne(place);
+        return four ? Streams.encodeFour(codes, in, place, out) : Streams.encodeOne(codes, in, place, out);
     }
 
     public int decode(int n, boolean four) {
         if (!codes.areThere() || n < 0 || n > ROOM || four && !Streams.areFour(n)) {
             return -1;
         }
-        return four ? streams.decodeFour(place, n) : streams.decodeOne(place, n);
+        int fault = four ? streams.decodeFour(codes, in, place, n) : streams.decodeOne(codes, in, place, n);
+        if (fault != 0) {
+            return fault;
+        }
+        out.copy(streams.symbols);
+        return n;
     }
 
     public int about(int what) {
@@ -149,7 +154,7 @@ public final class PrefixMill {
             case 1:
                 return codes.known;
             case 2:
-                return streams.bitsOf(place, in.used);
+                return Streams.bitsOf(codes, in, place, in.used);
             default:
                 return -1;
         }
@@ -221,26 +226,27 @@ public final class PrefixMill {
         private final long[] words;
         private final int room;
         private int used;
+        /** Bits that are appended, but are no whole byte yet. */
+        private int held;
+        private int many;
 
         Row(int room) {
             this.room = room;
-            this.words = new long[(room + 7) / 8];
+            this.words = new long[room / 8 + 1];
         }
 
         void empty() {
             used = 0;
         }
 
-        /** False, and nothing changes, when the row is full. */
-        boolean add(int value) {
-            if (used >= room) {
-                return false;
+        /** Appends a byte. Callers see to it that there is room; without room nothing changes. */
+        void add(int value) {
+            if (used < room) {
+                int shift = 8 * (used & 7);
+                int word = used >> 3;
+                words[word] = words[word] & ~(255L << shift) | (value & 255L) << shift;
+                used++;
             }
-            int shift = 8 * (used & 7);
-            int word = used >> 3;
-            words[word] = words[word] & ~(255L << shift) | (value & 255L) << shift;
-            used++;
-            return true;
         }
 
         /** Byte k; -1 when there is none. */
@@ -260,22 +266,11 @@ public final class PrefixMill {
             return three >> (p & 7) & (1 << n) - 1;
         }
 
-        /** The other row is of the same room. */
+        /** Becomes another row of the same room. */
         void copy(Row other) {
-            int many = Math.min(words.length, other.words.length);
-            System.arraycopy(other.words, 0, words, 0, many);
+            int most = Math.min(words.length, other.words.length);
+            System.arraycopy(other.words, 0, words, 0, most);
             used = Math.min(other.used, room);
-        }
-    }
-
-    /** Appends bits to a row, whose last byte is whole whenever nothing is held. */
-    private static final class Pen {
-        private final Row row;
-        private int held;
-        private int many;
-
-        Pen(Row row) {
-            this.row = row;
         }
 
         /** Appends a number of n bits, at most 16. */
@@ -283,38 +278,33 @@ public final class PrefixMill {
             held |= number << many;
             many += n;
             while (many >= 8) {
-                row.add(held & 255);
+                add(held & 255);
                 held >>= 8;
                 many -= 8;
             }
         }
 
-        /** Zeros up to the end of a byte. */
+        /** Appends zeros up to the end of a byte. */
         void pad() {
             if (many > 0) {
                 put(0, 8 - many);
             }
         }
 
-        /** The END, and zeros up to the end of a byte. */
+        /** Appends the END, and zeros up to the end of a byte. */
         void finish() {
             put(1, 1);
             pad();
         }
     }
 
-    /** Reads bits of a part of a row from its END down. */
+    /** Where reading is that goes from the END of a part of a row down. */
     private static final class Tail {
-        private final Row row;
         private int first;
         private int left;
 
-        Tail(Row row) {
-            this.row = row;
-        }
-
         /** Begins with the bytes from .. to - 1; false when they have no END. */
-        boolean open(int from, int to) {
+        boolean open(Row row, int from, int to) {
             int last = from < to ? row.get(to - 1) : 0;
             if (last <= 0) {
                 return false;
@@ -325,7 +315,7 @@ public final class PrefixMill {
         }
 
         /** The n highest bits that are left; those below the first one are 0. */
-        int look(int n) {
+        int look(Row row, int n) {
             if (n <= left) {
                 return row.bits(first + left - n, n);
             }
@@ -342,8 +332,8 @@ public final class PrefixMill {
         }
 
         /** The n highest bits that are left, which are there. */
-        int take(int n) {
-            int number = look(n);
+        int take(Row row, int n) {
+            int number = look(row, n);
             drop(n);
             return number;
         }
@@ -368,7 +358,6 @@ public final class PrefixMill {
             known = 0;
             for (int symbol = 0; symbol < SYMBOLS; symbol++) {
                 lengths[symbol] = newLengths[symbol];
-                values[symbol] = 0;
                 if (lengths[symbol] > 0) {
                     known++;
                     highest = symbol;
@@ -674,39 +663,39 @@ public final class PrefixMill {
             return ranked[starts[v] + x - massOf(v)];
         }
 
-        void put(Pen pen) {
-            pen.put(order - LEAST_ORDER, 4);
+        void put(Row row) {
+            row.put(order - LEAST_ORDER, 4);
             int lack = 1 << order;
             int v = 0;
             while (v < WEIGHTS && lack > 0) {
-                putPoints(pen, points[v] + 1, lack);
+                putPoints(row, points[v] + 1, lack);
                 lack -= massOf(v);
-                v = points[v] == 0 ? putNone(pen, v + 1) : v + 1;
+                v = points[v] == 0 ? putNone(row, v + 1) : v + 1;
             }
-            pen.pad();
+            row.pad();
         }
 
-        private static void putPoints(Pen pen, int u, int lack) {
+        private static void putPoints(Row row, int u, int lack) {
             int k = log2(lack + 1);
             int t = 1 << k;
             int m = 2 * t - 2 - lack;
             if (u < m) {
-                pen.put(u, k);
+                row.put(u, k);
             } else {
-                pen.put(u < t ? u : u + m, k + 1);
+                row.put(u < t ? u : u + m, k + 1);
             }
         }
 
         /** Writes how many from v on have 0 points, and answers the next that has not. */
-        private int putNone(Pen pen, int from) {
+        private int putNone(Row row, int from) {
             int v = from;
             while (v < WEIGHTS && points[v] == 0) {
                 v++;
             }
             for (int i = from; i + 3 <= v; i += 3) {
-                pen.put(3, 2);
+                row.put(3, 2);
             }
-            pen.put((v - from) % 3, 2);
+            row.put((v - from) % 3, 2);
             return v;
         }
 
@@ -767,7 +756,6 @@ public final class PrefixMill {
         private static final int DRAFT_ROOM = 256;
 
         private final Row row = new Row(DRAFT_ROOM);
-        private final Pen pen = new Pen(row);
         private final Share share = new Share();
         private final int order;
 
@@ -779,19 +767,19 @@ public final class PrefixMill {
         void compose(int[] weights, int k, int[] counts) {
             row.empty();
             share.byCounts(order, counts, k);
-            share.put(pen);
+            share.put(row);
             int state = share.lowestPlace(weights[k - 1]);
             int other = share.lowestPlace(weights[k - 2]);
             for (int i = k - 3; i >= 0; i--) {
                 int before = share.placeBefore(state, weights[i]);
-                pen.put(state - share.bases[before], share.takes[before]);
+                row.put(state - share.bases[before], share.takes[before]);
                 state = other;
                 other = before;
             }
             // The state of the turn is the elder one, that of weight 1.
-            pen.put(state, order);
-            pen.put(other, order);
-            pen.finish();
+            row.put(state, order);
+            row.put(other, order);
+            row.finish();
         }
     }
 
@@ -800,22 +788,15 @@ public final class PrefixMill {
         /** The length of a way that there is not, more than any that there is. */
         private static final int NO_WAY = 1000;
 
-        private final Codes codes;
-        private final Row out;
         private final Draft five = new Draft(LEAST_ORDER);
         private final Draft six = new Draft(MOST_ORDER);
         private final int[] weights = new int[SYMBOLS];
         private final int[] counts = new int[WEIGHTS];
 
-        Writer(Codes codes, Row out) {
-            this.codes = codes;
-            this.out = out;
-        }
-
         /** There are codes. Answers how many bytes, or -2. */
-        int describeCodes() {
+        int describeCodes(Codes codes, Row out) {
             int k = codes.highest;
-            takeWeights(k);
+            takeWeights(codes, k);
             boolean mixed = k >= 2 && counts[weights[0]] < k;
             if (mixed) {
                 five.compose(weights, k, counts);
@@ -829,14 +810,14 @@ public final class PrefixMill {
             }
             out.empty();
             if (direct <= states) {
-                putDirect(k);
+                putDirect(out, k);
             } else {
-                putStates(draft);
+                putStates(out, draft);
             }
             return out.used;
         }
 
-        private void takeWeights(int k) {
+        private void takeWeights(Codes codes, int k) {
             Arrays.fill(counts, 0);
             for (int symbol = 0; symbol < k; symbol++) {
                 weights[symbol] = codes.weightOf(symbol);
@@ -844,7 +825,7 @@ public final class PrefixMill {
             }
         }
 
-        private void putDirect(int k) {
+        private void putDirect(Row out, int k) {
             out.add(DIRECT_MARK - 1 + k);
             for (int symbol = 0; symbol < k; symbol += 2) {
                 int second = symbol + 1 < k ? weights[symbol + 1] : 0;
@@ -852,7 +833,7 @@ public final class PrefixMill {
             }
         }
 
-        private void putStates(Row draft) {
+        private static void putStates(Row out, Row draft) {
             out.add(draft.used);
             for (int i = 0; i < draft.used; i++) {
                 out.add(draft.get(i));
@@ -862,21 +843,15 @@ public final class PrefixMill {
 
     /** Reads a description; what it was stands here until the next is read. */
     private static final class Reader {
-        private final Row in;
-        private final Tail tail;
+        private final Tail tail = new Tail();
         private final Share share = new Share();
         private final int[] weights = new int[SYMBOLS];
         private final int[] lengths = new int[SYMBOLS];
         private int known;
         private int end;
 
-        Reader(Row in) {
-            this.in = in;
-            this.tail = new Tail(in);
-        }
-
         /** Reads one from a place in IN on, and answers 0 or the fault's number. */
-        int readCodes(int place) {
+        int readCodes(Row in, int place) {
             int x = in.get(place);
             int from = place + 1;
             end = from + (x < DIRECT_MARK ? x : (x - DIRECT_MARK + 2) / 2);
@@ -884,20 +859,20 @@ public final class PrefixMill {
                 return 1;
             }
             if (x >= DIRECT_MARK) {
-                takeDirect(from, x - DIRECT_MARK + 1);
+                takeDirect(in, from, x - DIRECT_MARK + 1);
             } else {
                 int row = share.take(in, from, end);
                 if (row < 0) {
                     return 2;
                 }
-                if (!takeRow(row)) {
+                if (!takeRow(in, row)) {
                     return 3;
                 }
             }
             return takeLengths() ? 0 : 4;
         }
 
-        private void takeDirect(int from, int many) {
+        private void takeDirect(Row in, int from, int many) {
             known = many;
             for (int i = 0; i < many; i++) {
                 int two = in.get(from + i / 2);
@@ -906,12 +881,12 @@ public final class PrefixMill {
         }
 
         /** Reads the row in two states from a byte up to the end; false when it is none. */
-        private boolean takeRow(int from) {
-            if (!tail.open(from, end) || tail.left < 2 * share.order) {
+        private boolean takeRow(Row in, int from) {
+            if (!tail.open(in, from, end) || tail.left < 2 * share.order) {
                 return false;
             }
-            int state = tail.take(share.order);
-            int other = tail.take(share.order);
+            int state = tail.take(in, share.order);
+            int other = tail.take(in, share.order);
             // The last turn adds two weights. A row may have no end of its own: a place may take 0 bits.
             for (known = 1; known < MOST_WEIGHTS_READ; known++) {
                 weights[known - 1] = share.owners[state];
@@ -920,7 +895,7 @@ public final class PrefixMill {
                     known++;
                     return true;
                 }
-                int after = share.bases[state] + tail.take(share.takes[state]);
+                int after = share.bases[state] + tail.take(in, share.takes[state]);
                 state = other;
                 other = after;
             }
@@ -949,25 +924,13 @@ public final class PrefixMill {
         }
     }
 
-    /** IN as one STREAM or as FOUR, and back. */
+    /** A row as one STREAM or as FOUR, and back; there are codes whenever it is asked. */
     private static final class Streams {
         private static final int NUMBERS = 6;
 
-        private final Codes codes;
-        private final Row in;
-        private final Row out;
-        /** Takes what is decoded, since OUT stays when a later stream is at fault. */
-        private final Row spare = new Row(ROOM);
-        private final Pen pen;
-        private final Tail tail;
-
-        Streams(Codes codes, Row in, Row out) {
-            this.codes = codes;
-            this.in = in;
-            this.out = out;
-            this.pen = new Pen(out);
-            this.tail = new Tail(in);
-        }
+        /** What was decoded: a row of its own, since OUT stays when a later stream is at fault. */
+        private final Row symbols = new Row(ROOM);
+        private final Tail tail = new Tail();
 
         /**
          * Whether n symbols can be four streams. That three have at most 65535 bytes needs no test:
@@ -981,8 +944,8 @@ public final class PrefixMill {
             return (n + 3) / 4;
         }
 
-        /** How many bits the bytes from .. to - 1 of IN take; -1 when one has no code. */
-        int bitsOf(int from, int to) {
+        /** How many bits the bytes from .. to - 1 take; -1 when one has no code. */
+        static int bitsOf(Codes codes, Row in, int from, int to) {
             int bits = 0;
             for (int i = from; i < to; i++) {
                 int length = codes.lengths[in.get(i)];
@@ -994,105 +957,100 @@ public final class PrefixMill {
             return bits;
         }
 
-        /** With the END: always a bit more than the symbols take. */
-        private int bytesOf(int from, int to) {
-            return bitsOf(from, to) / 8 + 1;
+        /** With the END, which is always there: a bit more than the symbols take. */
+        private static int bytesOf(Codes codes, Row in, int from, int to) {
+            return bitsOf(codes, in, from, to) / 8 + 1;
         }
 
-        /** There are codes for all symbols. */
-        int encodeOne(int place) {
-            if (bytesOf(place, in.used) > ROOM) {
+        /** Encodes what is behind a place, where all symbols have codes. */
+        static int encodeOne(Codes codes, Row in, int place, Row out) {
+            if (bytesOf(codes, in, place, in.used) > ROOM) {
                 return -4;
             }
             out.empty();
-            putStream(place, in.used);
+            putStream(codes, in, place, in.used, out);
             return out.used;
         }
 
-        /** There are codes for all symbols. */
-        int encodeFour(int place) {
+        /** Encodes what is behind a place, where all symbols have codes. */
+        static int encodeFour(Codes codes, Row in, int place, Row out) {
             int n = in.used - place;
             if (!areFour(n)) {
                 return -3;
             }
-            int c = quarter(n);
-            int first = bytesOf(place, place + c);
-            int second = bytesOf(place + c, place + 2 * c);
-            int third = bytesOf(place + 2 * c, place + 3 * c);
-            if (NUMBERS + first + second + third + bytesOf(place + 3 * c, in.used) > ROOM) {
+            int second = place + quarter(n);
+            int third = second + quarter(n);
+            int fourth = third + quarter(n);
+            int firstBytes = bytesOf(codes, in, place, second);
+            int secondBytes = bytesOf(codes, in, second, third);
+            int thirdBytes = bytesOf(codes, in, third, fourth);
+            int fourthBytes = bytesOf(codes, in, fourth, in.used);
+            if (NUMBERS + firstBytes + secondBytes + thirdBytes + fourthBytes > ROOM) {
                 return -4;
             }
             out.empty();
-            pen.put(first, 16);
-            pen.put(second, 16);
-            pen.put(third, 16);
-            putStream(place, place + c);
-            putStream(place + c, place + 2 * c);
-            putStream(place + 2 * c, place + 3 * c);
-            putStream(place + 3 * c, in.used);
+            out.put(firstBytes, 16);
+            out.put(secondBytes, 16);
+            out.put(thirdBytes, 16);
+            putStream(codes, in, place, second, out);
+            putStream(codes, in, second, third, out);
+            putStream(codes, in, third, fourth, out);
+            putStream(codes, in, fourth, in.used, out);
             return out.used;
         }
 
-        private void putStream(int from, int to) {
+        private static void putStream(Codes codes, Row in, int from, int to, Row out) {
             for (int i = to - 1; i >= from; i--) {
                 int symbol = in.get(i);
-                pen.put(codes.values[symbol], codes.lengths[symbol]);
+                out.put(codes.values[symbol], codes.lengths[symbol]);
             }
-            pen.finish();
+            out.finish();
         }
 
-        /** There are codes, and n is at most what OUT holds. */
-        int decodeOne(int place, int n) {
-            spare.empty();
-            return keep(takeStream(place, in.used, n), n);
+        /** Decodes n symbols, at most what a row holds; answers 0 or the fault. */
+        int decodeOne(Codes codes, Row in, int place, int n) {
+            symbols.empty();
+            return takeStream(codes, in, place, in.used, n);
         }
 
-        /** There are codes, and n, at most what OUT holds, can be four. */
-        int decodeFour(int place, int n) {
-            int begin = place + NUMBERS;
-            if (begin > in.used) {
+        /** Decodes n symbols, at most what a row holds and such that are four; answers 0 or the fault. */
+        int decodeFour(Codes codes, Row in, int place, int n) {
+            int first = place + NUMBERS;
+            if (first > in.used) {
                 return -2;
             }
-            int second = begin + in.bits(8 * place, 16);
+            int second = first + in.bits(8 * place, 16);
             int third = second + in.bits(8 * place + 16, 16);
             int fourth = third + in.bits(8 * place + 32, 16);
             if (fourth > in.used) {
                 return -2;
             }
             int c = quarter(n);
-            spare.empty();
-            int fault = takeStream(begin, second, c);
+            symbols.empty();
+            int fault = takeStream(codes, in, first, second, c);
             if (fault == 0) {
-                fault = takeStream(second, third, c);
+                fault = takeStream(codes, in, second, third, c);
             }
             if (fault == 0) {
-                fault = takeStream(third, fourth, c);
+                fault = takeStream(codes, in, third, fourth, c);
             }
             if (fault == 0) {
-                fault = takeStream(fourth, in.used, n - 3 * c);
+                fault = takeStream(codes, in, fourth, in.used, n - 3 * c);
             }
-            return keep(fault, n);
+            return fault;
         }
 
-        private int keep(int fault, int n) {
-            if (fault != 0) {
-                return fault;
-            }
-            out.copy(spare);
-            return n;
-        }
-
-        /** Reads n symbols from the bytes from .. to - 1 of IN; answers 0, or -3 or -4. */
-        private int takeStream(int from, int to, int n) {
-            if (!tail.open(from, to)) {
+        /** Reads n symbols from the bytes from .. to - 1; answers 0, or -3 or -4. */
+        private int takeStream(Codes codes, Row in, int from, int to, int n) {
+            if (!tail.open(in, from, to)) {
                 return -3;
             }
             for (int i = 0; i < n; i++) {
-                int symbol = codes.cells[tail.look(codes.greatest)];
+                int symbol = codes.cells[tail.look(in, codes.greatest)];
                 if (!tail.drop(codes.lengths[symbol])) {
                     return -4;
                 }
-                spare.add(symbol);
+                symbols.add(symbol);
             }
             return tail.left == 0 ? 0 : -4;
         }

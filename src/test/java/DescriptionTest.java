@@ -9,6 +9,8 @@ public final class DescriptionTest {
         describeRefused();
         describeDirect();
         describeByStates();
+        describeGaps();
+        describeTooMuch();
         describeChooses();
         describeKeeps();
         readDirect();
@@ -124,6 +126,68 @@ public final class DescriptionTest {
         mill = withLengths(254, 1, 1);
         DUE.same("describe() of 254 and 255", mill.describe() > 0, true);
         DUE.same("by states", mill.byteAt(0) == mill.size() - 1 && mill.size() < 128, true);
+    }
+
+    /** How many symbols have weight 0, 1, ..: in an order that is drawn, and one more that completes them. */
+    private static int[] lengthsOf(int[] counts, long seed) {
+        List<Integer> weights = new ArrayList<>();
+        int sum = 0;
+        for (int v = 0; v < counts.length; v++) {
+            for (int i = 0; i < counts[v]; i++) {
+                weights.add(v);
+                sum += v > 0 ? 1 << (v - 1) : 0;
+            }
+        }
+        java.util.Collections.shuffle(weights, new java.util.Random(seed));
+        int t = 32 - Integer.numberOfLeadingZeros(sum);
+        weights.add(1 + Integer.numberOfTrailingZeros((1 << t) - sum));
+        return weights.stream().mapToInt(v -> v == 0 ? 0 : t + 1 - v).toArray();
+    }
+
+    /** Describes codes with these counts of weights in many orders; the share must begin the description. */
+    private static void sharesAre(String name, int[] counts, int[] share) {
+        boolean seen = false;
+        for (int seed = 0; seed < 60; seed++) {
+            int[] lengths = lengthsOf(counts, seed);
+            PrefixMill mill = withLengths(0, lengths);
+            PlainMill plain = new PlainMill();
+            for (int s = 0; s < lengths.length; s++) {
+                plain.count(s, lengths[s]);
+            }
+            plain.just();
+            DUE.same(name + ": describe()", mill.describe(), plain.describe());
+            DUE.out(name, mill, plain.out.stream().mapToInt(b -> b).toArray());
+            if (mill.byteAt(0) < 128 && mill.byteAt(1) % 16 == share[1] % 16) {
+                seen = true;
+                for (int i = 1; i < share.length; i++) {
+                    DUE.same(name + ": byte " + i + " of the share", mill.byteAt(i), share[i]);
+                }
+            }
+        }
+        DUE.same(name + ": the ORDER was seen", seen, true);
+    }
+
+    private static void describeGaps() {
+        // No weights between 1 and another: three, four, five, six and seven of them have 0 points.
+        sharesAre("1 and 5", new int[] {0, 15, 0, 0, 0, 1}, byBits("0:4 1:5 0:2 31:6 1:2 2:2 3:2"));
+        sharesAre("1 and 6", new int[] {0, 31, 0, 0, 0, 0, 1}, byBits("0:4 1:5 0:2 62:6 1:2 3:2 0:2 3:2"));
+        sharesAre("1 and 7", new int[] {0, 63, 0, 0, 0, 0, 0, 1}, byBits("0:4 1:5 0:2 62:6 1:2 3:2 1:2 0:1"));
+        sharesAre("1 and 8", new int[] {0, 127, 0, 0, 0, 0, 0, 0, 1}, byBits("0:4 1:5 0:2 62:6 1:2 3:2 2:2 0:1"));
+        sharesAre("1 and 9", new int[] {0, 128, 0, 0, 0, 0, 0, 0, 0, 1},
+                byBits("0:4 1:5 0:2 62:6 1:2 3:2 3:2 0:2 0:1"));
+        sharesAre("1, 9 and 11", new int[] {0, 128, 0, 0, 0, 0, 0, 0, 0, 3, 0, 1},
+                byBits("0:4 1:5 0:2 31:6 1:2 3:2 3:2 0:2 0:2 1:2 0:2 0:1"));
+        sharesAre("0, 1, 7 and 9 to 11", new int[] {99, 63, 0, 0, 0, 0, 0, 3, 0, 1, 1, 1},
+                byBits("0:4 17:5 13:4 1:2 3:2 1:2 0:2 1:2 0:2 0:2 0:2 0:1"));
+    }
+
+    /** Those of -1 points make the masses too much: the lowest of two with the most points has one less. */
+    private static void describeTooMuch() {
+        sharesAre("one too much", new int[] {106, 106, 1, 3, 0, 6, 5, 0, 5},
+                byBits("0:4 14:5 15:5 0:2 0:2 1:2 0:2 0:2 0:2 1:2 0:2 0:1"));
+        // Here the first byte alone is told: the ORDER, and four of the five bits of the points of 0.
+        sharesAre("four too much", new int[] {106, 106, 5, 1, 1, 2, 6, 2, 4, 4}, byBits("0:4 13:4"));
+        sharesAre("two too much", new int[] {96, 96, 4, 6, 0, 3, 4, 3, 0, 2}, byBits("0:4 14:4"));
     }
 
     private static void describeChooses() {

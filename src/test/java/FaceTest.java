@@ -93,7 +93,8 @@ public final class FaceTest {
         String code = source.replaceAll("(?s)/\\*.*?\\*/", "").replaceAll("//[^\n]*", "");
         String[] ruledOut = {
             "\\bcatch\\b", "\\bfinally\\b", "\\bsynchronized\\b", "\\bassert\\b", "\\bpackage\\b", "->", "::",
-            "\\w+Exact\\b", "\\bthread\\b", "\\bRandom\\b", "\\bcurrentTimeMillis\\b", "\\bnanoTime\\b", "\\bstatic\\s*\\{"
+            "\\w+Exact\\b", "\\bthread\\b", "\\bRandom\\b", "\\bcurrentTimeMillis\\b",
+            "\\bnanoTime\\b", "\\bstatic\\s*\\{"
         };
         for (String word : ruledOut) {
             DUE.same("the source has " + word, Pattern.compile(word).matcher(code).find(), false);

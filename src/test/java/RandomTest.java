@@ -210,10 +210,11 @@ public final class RandomTest {
         List<Integer> lengths = new ArrayList<>(List.of(0));
         for (int tries = 0; tries < 4000 && lengths.size() < kinds; tries++) {
             int i = below(3) == 0 ? 0 : below(lengths.size());
-            if (lengths.get(i) < deepest) {
-                int length = lengths.remove(i) + 1;
-                lengths.add(length);
-                lengths.add(length);
+            // At times several levels at once, so that lengths between are not there.
+            int levels = below(4) == 0 ? from(1, 7) : 1;
+            if (lengths.get(i) + levels <= deepest && lengths.size() + (1 << levels) <= 257) {
+                int length = lengths.remove(i) + levels;
+                lengths.addAll(Collections.nCopies(1 << levels, length));
             }
         }
         int span = from(lengths.size(), Math.min(256, lengths.size() * from(1, 8)));

@@ -268,6 +268,9 @@ public final class StreamsTest {
         DUE.same("upper bytes count", small(1, 1, 1, 0, 1, 0, 1, 1, 1, 1).decode(0, true), -2);
         DUE.same("upper bytes count", small(1, 0, 1, 1, 1, 0, 1, 1, 1, 1).decode(0, true), -2);
         DUE.same("upper bytes count", small(1, 0, 1, 0, 1, 1, 1, 1, 1, 1).decode(0, true), -2);
+        DUE.same("the highest bit counts", small(1, 128, 1, 0, 1, 0, 1, 1, 1, 1).decode(0, true), -2);
+        DUE.same("the highest bit counts", small(1, 0, 1, 128, 1, 0, 1, 1, 1, 1).decode(0, true), -2);
+        DUE.same("the highest bit counts", small(1, 0, 1, 0, 1, 128, 1, 1, 1, 1).decode(0, true), -2);
         DUE.same("the most", small(255, 255, 255, 255, 255, 255, 1, 1, 1, 1).decode(0, true), -2);
         // -2 comes before the faults of streams that are there.
         DUE.same("a 0 and no fourth", small(1, 0, 1, 0, 9, 0, 0, 0, 0, 0).decode(0, true), -2);
