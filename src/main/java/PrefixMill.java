@@ -649,6 +649,7 @@ public final class PrefixMill {
             }
         }
 
+        /** It takes bits whenever v has not all the mass: its number is then below 2^order. */
         int lowestPlace(int v) {
             return ranked[starts[v]];
         }
@@ -686,7 +687,7 @@ public final class PrefixMill {
             }
         }
 
-        /** Writes how many from v on have 0 points, and answers the next that has not. */
+        /** Writes how many from a weight on have 0 points, and answers the next that has not. */
         private int putNone(Row row, int from) {
             int v = from;
             while (v < WEIGHTS && points[v] == 0) {
@@ -738,7 +739,7 @@ public final class PrefixMill {
             return u - 1;
         }
 
-        /** Reads how many from v on have 0 points, and answers the next, which may be none. */
+        /** Reads how many from a weight on have 0 points, and answers the next, which may be none. */
         private int takeNone(Row row, int from) {
             int v = from;
             int run = 3;
@@ -776,7 +777,7 @@ public final class PrefixMill {
                 state = other;
                 other = before;
             }
-            // The state of the turn is the elder one, that of weight 1.
+            // The state whose turn it would be is that of v_1, the one that had the last turn that of v_0.
             row.put(state, order);
             row.put(other, order);
             row.finish();
