@@ -108,6 +108,15 @@ public final class DescriptionTest {
         mill = withLengths(0, 1, 2, 3, 4, 5, 6, 7, 8, 9, 10, 11, 11);
         DUE.same("describe() of 1 .. 11 11", mill.describe(), 7);
         DUE.out("1 .. 11 11", mill, 138, 0xBA, 0x98, 0x76, 0x54, 0x32, 0x10);
+        // Behind a longer one on the same object, the half behind an odd number of weights is 0 again.
+        mill = withLengths(0, 2, 2, 2, 2);
+        mill.describe();
+        mill.clear();
+        mill.count(0, 1);
+        mill.count(1, 1);
+        mill.just();
+        DUE.same("describe() of 1 1 behind another", mill.describe(), 2);
+        DUE.out("1 1 behind another", mill, 128, 0x10);
         // 128 weights, all the same: the most that DIRECT has, and no other way.
         mill = withMany(128, 8, 1);
         DUE.same("describe() of 128 the same", mill.describe(), 65);
@@ -318,6 +327,10 @@ public final class DescriptionTest {
 
     private static void faultThree() {
         fault(3, "no row", 2, 0xF0, 0x0D);
+        // A share of just 16 bits: 30 points for 0 and 2 for 2.
+        fault(3, "no row behind whole bytes", byBits("0:4 31:6 1:2 0:2 3:2"));
+        fault(2, "a share of 16 bits cut off", 1, byBits("0:4 31:6 1:2 0:2 3:2")[1]);
+        fault(4, "two zeros behind whole bytes", byBits("0:4 31:6 1:2 0:2 3:2", 0x00, 0x04));
         fault(3, "no row, bytes behind", 2, 0xF0, 0x0D, 0xF3, 0x09);
         fault(3, "a row without END", 3, 0xF0, 0x0D, 0x00);
         fault(3, "a last byte of 0", 5, 0xF0, 0x0D, 0xF3, 0x09, 0x00);

@@ -1,3 +1,4 @@
+import java.lang.reflect.Array;
 import java.lang.reflect.Constructor;
 import java.lang.reflect.Field;
 import java.lang.reflect.Method;
@@ -5,12 +6,14 @@ import java.lang.reflect.Modifier;
 import java.nio.file.Files;
 import java.nio.file.Path;
 import java.util.Arrays;
+import java.util.Collections;
+import java.util.IdentityHashMap;
 import java.util.List;
 import java.util.Set;
 import java.util.TreeSet;
 import java.util.regex.Pattern;
 
-/** The public face, the rules of LANGUAGE.md that a text or the class itself shows, and wild arguments. */
+/** The public face, the rules of LANGUAGE.md that a text or the class itself shows, wild arguments, and room. */
 public final class FaceTest {
     private static final Due DUE = new Due();
     private static final Set<String> FACE = new TreeSet<>(List.of(
@@ -24,6 +27,7 @@ public final class FaceTest {
         classesInside();
         words(Files.readString(Path.of(System.getProperty("main.source", "src/main/java/PrefixMill.java"))));
         wildArguments();
+        room();
         DUE.end();
     }
 
@@ -149,5 +153,33 @@ public final class FaceTest {
         mill.turn();
         mill.decode(a, true);
         mill.read();
+    }
+
+    /** Even a run of 512 new objects stays within 600,000 objects and 7.3 million fields and elements. */
+    private static void room() throws Exception {
+        int[] made = new int[2];
+        weigh(new PrefixMill(), made, Collections.newSetFromMap(new IdentityHashMap<>()));
+        DUE.same(made[0] + " objects are few enough", made[0] * 512 <= 600_000, true);
+        DUE.same(made[1] + " fields and elements are few enough", made[1] * 512 <= 7_300_000, true);
+    }
+
+    private static void weigh(Object object, int[] made, Set<Object> seen) throws Exception {
+        if (object == null || !seen.add(object)) {
+            return;
+        }
+        made[0]++;
+        if (object.getClass().isArray()) {
+            made[1] += Array.getLength(object);
+            return;
+        }
+        for (Field field : object.getClass().getDeclaredFields()) {
+            if (!Modifier.isStatic(field.getModifiers())) {
+                made[1]++;
+                field.setAccessible(true);
+                if (!field.getType().isPrimitive()) {
+                    weigh(field.get(object), made, seen);
+                }
+            }
+        }
     }
 }

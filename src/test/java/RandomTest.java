@@ -286,10 +286,17 @@ public final class RandomTest {
     }
 
     private void streamCalls(boolean four) {
-        if (below(3) > 0) {
-            textCalls();
-            countAll();
-            lengths(from(6, 11));
+        switch (below(3)) {
+            case 0 -> {
+                textCalls();
+                countAll();
+                lengths(from(6, 11));
+            }
+            case 1 -> {
+                justCalls();
+                textByCodes();
+            }
+            default -> { }
         }
         place(below(5) == 0 ? from(0, plain.in.size()) : 0);
         int n = plain.in.size() - plain.place;
@@ -313,6 +320,23 @@ public final class RandomTest {
             writeAll(bytes);
             decode(n, four);
         }
+    }
+
+    /** A text of such symbols alone that have codes, be these by counts or not. */
+    private void textByCodes() {
+        clear();
+        List<Integer> known = new ArrayList<>();
+        for (int symbol = 0; symbol < 256 && plain.codes != null; symbol++) {
+            if (plain.codes[symbol] > 0) {
+                known.add(symbol);
+            }
+        }
+        List<Integer> text = new ArrayList<>();
+        int many = known.isEmpty() ? 0 : below(1 << from(0, 9));
+        for (int i = 0; i < many; i++) {
+            text.add(known.get(below(known.size())));
+        }
+        writeAll(text);
     }
 
     private void strangeStream() {

@@ -19,6 +19,7 @@ public final class StreamsTest {
         decodeKeeps();
         decodeFull();
         thereAndBack();
+        deepThereAndBack();
         DUE.end();
     }
 
@@ -371,6 +372,32 @@ public final class StreamsTest {
                     DUE.same("decode(" + n + ", true)", mill.decode(n, true), n);
                     DUE.out("decode(" + n + ", true)", mill, text);
                 }
+            }
+        }
+    }
+
+    /** Codes of 1 to 11 bits, so that eleven bits over three bytes are looked at from every bit on. */
+    private static void deepThereAndBack() {
+        for (int n = 0; n <= 300; n++) {
+            PrefixMill mill = new PrefixMill();
+            for (int s = 0; s < 12; s++) {
+                mill.count(s, Math.min(s + 1, 11));
+            }
+            DUE.same("just()", mill.just(), 11);
+            int[] text = new int[n];
+            for (int i = 0; i < n; i++) {
+                text[i] = (i * i + n * i / 3) % 12;
+            }
+            put(mill, text);
+            mill.encode(false);
+            mill.turn();
+            DUE.same("decode(" + n + ", false) of deep codes", mill.decode(n, false), n);
+            DUE.out("decode(" + n + ", false) of deep codes", mill, text);
+            mill.turn();
+            if (mill.encode(true) > 0) {
+                mill.turn();
+                DUE.same("decode(" + n + ", true) of deep codes", mill.decode(n, true), n);
+                DUE.out("decode(" + n + ", true) of deep codes", mill, text);
             }
         }
     }
