@@ -53,24 +53,9 @@ public final class DescriptionTest {
         }
     }
 
-    /** Bytes of numbers, each written as "number:bits", the lowest bit first, and a first byte. */
+    /** A description of numbers, each told as "number:bits", and of bytes behind them. */
     private static int[] byBits(String text, int... behind) {
-        List<Integer> bits = new ArrayList<>();
-        for (String part : text.split(" ")) {
-            int number = Integer.parseInt(part.split(":")[0]);
-            int many = Integer.parseInt(part.split(":")[1]);
-            for (int i = 0; i < many; i++) {
-                bits.add(number >> i & 1);
-            }
-        }
-        int own = (bits.size() + 7) / 8;
-        int[] bytes = new int[1 + own + behind.length];
-        bytes[0] = own + behind.length;
-        for (int i = 0; i < bits.size(); i++) {
-            bytes[1 + i / 8] |= bits.get(i) << (i % 8);
-        }
-        System.arraycopy(behind, 0, bytes, 1 + own, behind.length);
-        return bytes;
+        return Bits.described(Bits.of(text), behind);
     }
 
     private static void fault(int number, String what, int... bytes) {

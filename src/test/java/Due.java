@@ -2,14 +2,24 @@
 final class Due {
     private int calls = 0;
     private int wrong = 0;
+    private String test = "";
+
+    /** Names the test that the next calls belong to. */
+    void name(String newTest) {
+        test = newTest + ": ";
+    }
 
     void same(String call, long got, long want) {
         calls++;
         if (got != want) {
-            wrong++;
-            if (wrong <= 50) {
-                System.out.println(call + " answered " + got + ", due is " + want);
-            }
+            fail(call + " answered " + got + ", due is " + want);
+        }
+    }
+
+    void fail(String what) {
+        wrong++;
+        if (wrong <= 50) {
+            System.out.println(test + what);
         }
     }
 
