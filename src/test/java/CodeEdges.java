@@ -81,6 +81,15 @@ final class CodeEdges {
         new Run(due).counts(0, 3, 3, 1, 2).lengths(2, 2).just(3).lengthsAre(0, 3, 3, 1, 2);
     }
 
+    @Edge(promise = 10, says = "CODES become those with LENGTHS BY COUNTS: T (what was counted stays).")
+    static void lengthsForgetsTheCodesBefore(Due due) {
+        Run run = new Run(due).counts(0, powers(12)).lengths(11, 11).clear().counts(20, 1, 1).lengths(11, 1);
+        run.about(0, 1).about(1, 2).lengthsAre(0, Bits.many(0, 12)).lengthsAre(20, 1, 1);
+        // Three of four, one count being 0 now.
+        new Run(due).counts(0, 1, 1, 1, 1).lengths(2, 2).count(0, 0, true).lengths(2, 2).about(1, 3)
+                .lengthsAre(0, 0, 2, 2, 1);
+    }
+
     @Edge(promise = 10, says = "the symbols with counts above 0 are KNOTS with these counts, in rising order of symbols.")
     static void lengthsOfTheFirstAndTheLastSymbol(Due due) {
         new Run(due).count(255, 1, true).count(0, 1, true).lengths(11, 1).about(1, 2).code(0, 1, 0).code(255, 1, 1);
@@ -180,6 +189,11 @@ final class CodeEdges {
             run.count(2, c, true).just(-1).count(1, c, true).just(-1).count(2, 0, true).just(-1).count(1, 1, true);
         }
         run.about(0, 1).about(1, 2).lengthsAre(0, 1, 1, 0).just(1);
+        // The first symbol and the last are no others.
+        for (int c : wrong) {
+            run.count(0, c, true).just(-1).count(0, 1, true).count(255, c, true).just(-1).count(255, 0, true);
+        }
+        run.just(1);
     }
 
     @Edge(promise = 11, says = "or they are no LENGTHS as told.")

@@ -676,6 +676,12 @@ final class DescriptionEdges {
         // When all is given out, the share ends: what follows in its byte is of no matter.
         reads(due, Bits.described("0:4 31:6 3:2 15:4", "0:5 9:5 1:1"), 1, 0, 1);
         reads(due, Bits.described("0:4 31:6 3:2 5:4", "0:5 9:5 1:1"), 1, 0, 1);
+        // Nor have those behind it the points of a share before: 31 is 0's again, which was 1's.
+        Run run = new Run(due).in(Bits.described("0:4 31:6 0:2 0:1", "30:5 31:5 1:1"));
+        run.in(Bits.described(FIVE, "31:5 9:5 1:1")).in(Bits.described("0:4 1:5 0:2 62:6 0:1", "31:5 0:5 1:1"));
+        run.in(Bits.described(FIVE, "31:5 9:5 1:1"));
+        run.read(2).lengthsAre(0, 2, 1, 2, 0).read(1).lengthsAre(0, 1, 0, 1, 0);
+        run.read(2).lengthsAre(0, 2, 1, 2, 0).read(1).lengthsAre(0, 1, 0, 1, 0);
     }
 
     @Edge(promise = 13, says = "It is written so: L - 5 in 4 bits.")

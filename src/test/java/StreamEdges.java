@@ -225,6 +225,10 @@ final class StreamEdges {
         small(due, 255, 255, 1, 0, 0, 0, 1, 1, 1, 1).decode(0, true, -2);
         small(due, 0, 128, 0, 128, 3, 0, 1, 1, 1, 1).decode(0, true, -2);
         small(due).inOf(255, 6000).decode(0, true, -2).decode(6000, true, -2).size(0);
+        // The highest bit of each counts: without it, all would be there.
+        small(due, 1, 128, 1, 0, 1, 0, 1, 1, 1, 1).decode(0, true, -2);
+        small(due, 1, 0, 1, 128, 1, 0, 1, 1, 1, 1).decode(0, true, -2);
+        small(due, 1, 0, 1, 0, 1, 128, 1, 1, 1, 1).decode(0, true, -2);
     }
 
     @Edge(promise = 15, says = "-3: a stream (the first such one) has no byte")
@@ -351,6 +355,9 @@ final class StreamEdges {
         deep(due, 0, 0x08).decode(1, false, 1).out(10);
         deep(due, 0, 0x10).decode(1, false, -4).decode(2, false, -4);
         deep(due, 1, 0x08).decode(1, false, 1).out(11);
+        // Eleven bits over three bytes, from 7 and from 6 on, the highest of which are a 1 and 01.
+        deep(due, 0, 0xF8, 0x07).decode(8, false, 8).out(0, 0, 0, 0, 0, 0, 0, 10);
+        deep(due, 0, 0xA8, 0x06).decode(5, false, 5).out(0, 1, 1, 1, 10);
         // What is before PLACE, or in the stream before, is not below the first bit.
         deep(due, 0xFF, 0xFF, 0b10).place(2, true).decode(1, false, -4);
         small(due, 1, 0, 1, 0, 1, 0, 3, 2, 3, 3).decode(4, true, -4);
