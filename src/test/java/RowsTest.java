@@ -83,9 +83,10 @@ public final class RowsTest {
 
     private static void writeFull() {
         PrefixMill mill = new PrefixMill();
-        for (int i = 0; i < 749; i++) {
+        for (int i = 0; i < 400; i++) {
             DUE.same("write of eight", mill.write(i, 8), true);
         }
+        DUE.same("349 times eight more", mill.again(8, 349), true);
         DUE.same("5992 bytes", mill.countAll(), 5992);
         DUE.same("write to 5999", mill.write(-1, 7), true);
         DUE.same("write beyond 6000", mill.write(-1, 2), false);
