@@ -527,7 +527,7 @@ public final class PrefixMill {
         private int next;
 
         private int massOf(int v) {
-            return Math.abs(points[v]);
+            return points[v] < 0 ? 1 : points[v];
         }
 
         private int lacking() {
